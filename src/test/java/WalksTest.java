@@ -172,10 +172,12 @@ public final class WalksTest {
         CHECK.due("outer BREAK: surelyAtEnd", desk.surelyAtEnd(), 8);
         CHECK.due("outer BREAK: surely at the LOOP", desk.surely(1), 0);
         // In one part of an IF: the walk goes on behind the LOOP.
-        desk = Desks.with(Token.PAIR, Token.LOOP, Token.YES, Token.IF, Token.ASK, Token.BREAK, Token.SET, Token.SET + 3);
+        desk = Desks.with(Token.PAIR, Token.LOOP, Token.YES,
+            Token.IF, Token.ASK, Token.BREAK, Token.SET, Token.SET + 3);
         CHECK.due("BREAK when true: surelyAtEnd", desk.surelyAtEnd(), 8);
         CHECK.due("BREAK when true: perhapsAtEnd", desk.perhapsAtEnd(), 9);
-        desk = Desks.with(Token.PAIR, Token.LOOP, Token.YES, Token.IF, Token.ASK, Token.SET, Token.BREAK, Token.SET + 3);
+        desk = Desks.with(Token.PAIR, Token.LOOP, Token.YES,
+            Token.IF, Token.ASK, Token.SET, Token.BREAK, Token.SET + 3);
         CHECK.due("BREAK when false: surelyAtEnd", desk.surelyAtEnd(), 8);
         CHECK.due("BREAK when false: perhapsAtEnd", desk.perhapsAtEnd(), 9);
         // In both parts of an IF in the body.
