@@ -1,15 +1,21 @@
 /** Counts and prints the answers that are not as due. */
 final class Check {
     private static final int MOST_PRINTED = 20;
+    private String sentence = "";
     private int made;
     private int wrong;
+
+    /** The sentence of the document, or the case of it, that the next answers are due to. */
+    void sentence(String words) {
+        sentence = "[" + words + "] ";
+    }
 
     void due(String what, long got, long want) {
         made++;
         if (got != want) {
             wrong++;
             if (wrong <= MOST_PRINTED) {
-                System.out.println(what + " answered " + got + ", due is " + want);
+                System.out.println(sentence + what + " answered " + got + ", due is " + want);
             }
         }
     }

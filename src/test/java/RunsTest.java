@@ -3,17 +3,11 @@ public final class RunsTest {
     private static final Check CHECK = new Check();
 
     public static void main(String[] args) {
-        noRunYet();
-        incomplete();
         decisionsInTheirOrder();
         onlyWhatIsOpenTakesDecisions();
         decisionsComeRoundAfter32();
-        stopsAfter100();
-        overWithExactly100();
-        the100thIsCarriedOut();
         faultsAreCountedEachTime();
         breaks();
-        resultsAreKept();
         aRunBeginsAnew();
         CHECK.finish();
     }
@@ -22,19 +16,6 @@ public final class RunsTest {
         CHECK.due(when + ": runSet", desk.runSet(), set);
         CHECK.due(when + ": runVisited", desk.runVisited(), visited);
         CHECK.due(when + ": runFaults", desk.runFaults(), faults);
-    }
-
-    private static void noRunYet() {
-        results("new", new DefiniteDesk(), 0, 0, 0);
-        results("no run", Desks.with(Token.PAIR, Token.SET, Token.USE + 1), 0, 0, 0);
-    }
-
-    private static void incomplete() {
-        DefiniteDesk desk = Desks.with(Token.PAIR, Token.SET);
-        CHECK.due("incomplete: run(0)", desk.run(0), DefiniteDesk.NONE);
-        CHECK.due("incomplete: run(-1)", desk.run(-1), DefiniteDesk.NONE);
-        results("incomplete", desk, 0, 0, 0);
-        CHECK.due("new: run(1)", new DefiniteDesk().run(1), DefiniteDesk.NONE);
     }
 
     private static void decisionsInTheirOrder() {
@@ -85,44 +66,6 @@ public final class RunsTest {
         CHECK.due("decision 32 is bit 0", desk.run(0xb6db6db6), 10 * 8 + 7);
     }
 
-    private static void stopsAfter100() {
-        DefiniteDesk desk = Desks.with(Token.LOOP, Token.YES, Token.SKIP);
-        CHECK.due("endless: run", desk.run(0), 100);
-        results("endless", desk, 0, 7, 0);
-    }
-
-    private static void overWithExactly100() {
-        // Seven visits, then three for each true decision and two for the false one, then the SET.
-        DefiniteDesk desk = Desks.with(Token.PAIR, Token.SKIP, Token.PAIR, Token.SKIP, Token.PAIR, Token.SKIP,
-            Token.PAIR, Token.LOOP, Token.ASK, Token.SKIP, Token.SET + 3);
-        CHECK.due("7 + 29 * 3 + 2 + 1: run", desk.run(0x1fffffff), 97);
-        CHECK.due("7 + 29 * 3 + 2 + 1: runSet", desk.runSet(), 8);
-        CHECK.due("7 + 30 * 3 + 2 + 1: run", desk.run(0x3fffffff), 100);
-        CHECK.due("7 + 30 * 3 + 2 + 1: runSet", desk.runSet(), 8);
-        CHECK.due("7 + 31 * 3: run", desk.run(0x7fffffff), 100);
-        CHECK.due("7 + 31 * 3: runSet", desk.runSet(), 0);
-    }
-
-    /** A program and decisions for which 98 visits come before the last three tokens. */
-    private static DefiniteDesk ranAfter98(int... last) {
-        DefiniteDesk desk = Desks.with(Token.PAIR, Token.SKIP, Token.PAIR, Token.SKIP, Token.PAIR, Token.SKIP,
-            Token.PAIR, Token.LOOP, Token.NOT, Token.ASK, Token.SKIP);
-        for (int token : last) {
-            desk.feed(token);
-        }
-        // Seven visits, four for each false decision and three for the true one.
-        CHECK.due("7 + 22 * 4 + 3 + 2: run", desk.run(1 << 22), 100);
-        return desk;
-    }
-
-    private static void the100thIsCarriedOut() {
-        int first13 = (1 << 13) - 1;
-        results("SET is the 100th", ranAfter98(Token.PAIR, Token.SET, Token.SET + 1), 1, first13, 0);
-        results("USE is the 100th", ranAfter98(Token.PAIR, Token.USE, Token.USE), 0, first13, 1);
-        results("TRY is the 100th", ranAfter98(Token.LOOP, Token.TRY + 2, Token.SET), 4, first13, 0);
-        results("PEEK is the 100th", ranAfter98(Token.LOOP, Token.PEEK + 2, Token.USE), 0, first13, 1);
-    }
-
     private static void faultsAreCountedEachTime() {
         DefiniteDesk desk = Desks.with(Token.LOOP, Token.PEEK, Token.USE + 1);
         CHECK.due("faults: run(7)", desk.run(7), 11);
@@ -141,23 +84,6 @@ public final class RunsTest {
         desk = Desks.with(Token.PAIR, Token.LOOP, Token.YES, Token.PAIR, Token.BREAK, Token.SET, Token.SET + 1);
         CHECK.due("BREAK leaves the LOOP: run", desk.run(0), 6);
         results("BREAK leaves the LOOP", desk, 2, Desks.bits(0, 1, 2, 3, 4, 6), 0);
-    }
-
-    private static void resultsAreKept() {
-        DefiniteDesk desk = Desks.with(Token.PAIR, Token.SET + 1, Token.USE);
-        CHECK.due("kept: run", desk.run(0), 3);
-        results("after the run", desk, 2, 7, 1);
-        desk.back();
-        results("after back", desk, 2, 7, 1);
-        CHECK.due("kept: run of an incomplete program", desk.run(0), DefiniteDesk.NONE);
-        results("after a run that answers NONE", desk, 2, 7, 1);
-        desk.feed(Token.SET);
-        results("after feed", desk, 2, 7, 1);
-        desk.clear();
-        results("after clear", desk, 2, 7, 1);
-        desk.feed(Token.SKIP);
-        CHECK.due("kept: the next run", desk.run(0), 1);
-        results("after the next run", desk, 0, 1, 0);
     }
 
     private static void aRunBeginsAnew() {

@@ -3,24 +3,13 @@ public final class TokensTest {
     private static final Check CHECK = new Check();
 
     public static void main(String[] args) {
-        newObject();
         everyNumberAsFirstToken();
         everyNumberAsCondition();
-        feedsAfterTheEnd();
         incompleteWithAllTokens();
         completeWithAllTokens();
         partsInTheirOrder();
         takesTokensBack();
-        clears();
         CHECK.finish();
-    }
-
-    private static void newObject() {
-        DefiniteDesk desk = new DefiniteDesk();
-        CHECK.due("new: length", desk.length(), 0);
-        CHECK.due("new: complete", desk.complete(), false);
-        CHECK.due("new: back", desk.back(), DefiniteDesk.NONE);
-        CHECK.due("new: length after back", desk.length(), 0);
     }
 
     private static void everyNumberAsFirstToken() {
@@ -43,15 +32,6 @@ public final class TokensTest {
             CHECK.due("LOOP feed(" + token + ")", desk.feed(token), condition ? 2 : DefiniteDesk.NONE);
             CHECK.due("length after LOOP feed(" + token + ")", desk.length(), condition ? 2 : 1);
             CHECK.due("complete after LOOP feed(" + token + ")", desk.complete(), false);
-        }
-    }
-
-    private static void feedsAfterTheEnd() {
-        DefiniteDesk desk = Desks.with(Token.SKIP);
-        int[] offered = {Token.SKIP, Token.YES, 2, 7, 23, 32, -1, Integer.MIN_VALUE, Integer.MAX_VALUE};
-        for (int token : offered) {
-            CHECK.due("complete: feed(" + token + ")", desk.feed(token), DefiniteDesk.FULL);
-            CHECK.due("complete: length", desk.length(), 1);
         }
     }
 
@@ -126,19 +106,4 @@ public final class TokensTest {
         CHECK.due("feed after all were taken back", desk.feed(Token.USE), 1);
     }
 
-    private static void clears() {
-        DefiniteDesk desk = Desks.with(Token.IF, Token.ASK);
-        desk.clear();
-        CHECK.due("cleared: length", desk.length(), 0);
-        CHECK.due("cleared: complete", desk.complete(), false);
-        CHECK.due("cleared: back", desk.back(), DefiniteDesk.NONE);
-        CHECK.due("cleared: a condition", desk.feed(Token.ASK), DefiniteDesk.NONE);
-        CHECK.due("cleared: a statement", desk.feed(Token.SET + 3), 1);
-        CHECK.due("cleared: complete again", desk.complete(), true);
-        CHECK.due("cleared: the new program counts", desk.surelyAtEnd(), 8);
-        desk.clear();
-        desk.clear();
-        CHECK.due("cleared twice: length", desk.length(), 0);
-        CHECK.due("cleared twice: visited", desk.visited(), 0);
-    }
 }

@@ -1,13 +1,8 @@
-import static java.lang.Integer.MAX_VALUE;
-import static java.lang.Integer.MIN_VALUE;
-
 /** Promises 7 to 14: what all walks together visit, set and use. */
 public final class WalksTest {
     private static final Check CHECK = new Check();
 
     public static void main(String[] args) {
-        incomplete();
-        tokensOutOfRange();
         stateBeforeTheToken();
         conditionsThatNeverAsk();
         negation();
@@ -24,40 +19,6 @@ public final class WalksTest {
         sameConditionTwice();
         afterChange();
         CHECK.finish();
-    }
-
-    private static void none(String when, DefiniteDesk desk) {
-        CHECK.due(when + ": visited", desk.visited(), 0);
-        CHECK.due(when + ": surely(0)", desk.surely(0), DefiniteDesk.NONE);
-        CHECK.due(when + ": perhaps(0)", desk.perhaps(0), DefiniteDesk.NONE);
-        CHECK.due(when + ": ends", desk.ends(), false);
-        CHECK.due(when + ": surelyAtEnd", desk.surelyAtEnd(), DefiniteDesk.NONE);
-        CHECK.due(when + ": perhapsAtEnd", desk.perhapsAtEnd(), DefiniteDesk.NONE);
-        CHECK.due(when + ": badUses", desk.badUses(), 0);
-        CHECK.due(when + ": secondSets", desk.secondSets(), 0);
-    }
-
-    private static void incomplete() {
-        none("new", new DefiniteDesk());
-        none("a part is missing", Desks.with(Token.PAIR, Token.SET));
-        DefiniteDesk desk = Desks.with(Token.PAIR, Token.USE, Token.SET);
-        CHECK.due("whole: badUses", desk.badUses(), 2);
-        desk.back();
-        none("after back", desk);
-        desk.feed(Token.SET);
-        desk.clear();
-        none("after clear", desk);
-    }
-
-    private static void tokensOutOfRange() {
-        DefiniteDesk desk = Desks.with(Token.PAIR, Token.SET, Token.USE);
-        int[] wrong = {-1, 3, 4, 21, 22, 23, 32, MIN_VALUE, MAX_VALUE};
-        for (int k : wrong) {
-            CHECK.due("surely(" + k + ")", desk.surely(k), DefiniteDesk.NONE);
-            CHECK.due("perhaps(" + k + ")", desk.perhaps(k), DefiniteDesk.NONE);
-        }
-        CHECK.due("surely of the last token", desk.surely(2), 1);
-        CHECK.due("perhaps of the last token", desk.perhaps(2), 1);
     }
 
     private static void stateBeforeTheToken() {
